@@ -63,6 +63,88 @@ public final class PromiseTests {
     due(what + ": " + got + ", due is " + want, got.equals(want) ? 1 : 0, 1);
   }
 
+  /** What was asked ahead of a change is asked anew behind it. */
+  private static void changes() {
+    BackStairs x = house(4, 0, 1, OPEN, 1, 2, OPEN);
+    x.servant(0);
+    x.errand(1, 2, 1, 0, 0);
+    promise = 8;
+    due("ahead of a walk", x.trip(0, 0, 2, true, -1), 2);
+    due("cost ahead of it", x.cost(0), 2);
+    promise = 6;
+    walk(x, "b3a1");
+    due("behind it", x.trip(0, 0, 2, true, -1), NONE);
+    due("cost behind it", x.cost(0), 24);
+    promise = 3;
+    x.door(0, 3, BACK);
+    x.door(2, 3, OPEN);
+    due("behind a door", x.trip(0, 0, 2, true, -1), 2);
+    due("cost behind a door", x.cost(0), 2);
+    promise = 4;
+    x.wall(0, 3);
+    due("behind a wall", x.trip(0, 0, 2, true, -1), NONE);
+    due("cost behind a wall", x.cost(0), 24);
+    promise = 9;
+    x.cellar(3);
+    due("from another cellar", x.cost(0), 4);
+    x.servant(2);
+    due("with another servant", x.cost(0), 2);
+    promise = 10;
+    x.ill(1, true);
+    due("without him", x.cost(0), 4);
+    promise = 30;
+    x.image();
+    promise = 12;
+    x.errand(0, 3, 1, 0, 0);
+    due("with another errand, on the way", x.cost(0), 7);
+    promise = 14;
+    x.drop(0);
+    due("without the first", x.cost(0), 3);
+    promise = 32;
+    x.sheet(0, 2, 5);
+    fill(x, 0, 2, 0, 0, 1, 9, 0, 0);
+    x.errands(0, 2, 0, 1);
+    due("with one from a sheet", x.cost(0), 12);
+    promise = 31;
+    x.wall(0, 1);
+    due("a door less", x.wall(1, 2), 0);
+    x.door(1, 2, BACK);
+    x.restore();
+    due("as it was", x.cost(0), 4);
+    due("its doors, too", x.trip(0, 0, 3, false, -1), 3);
+    promise = 23;
+    BackStairs y = house(2);
+    y.folk(0);
+    y.folk(0);
+    y.say(0, 0, 0, 3);
+    y.say(1, 0, 1, 4);
+    y.say(1, 1, 0, 9);
+    due("b's last goes down whole", y.unsay(0) * 100 + y.unsay(0) * 10 + y.liars(), 210);
+    due("at its tick", y.maybe(1, 9), 1);
+    y.say(0, 0, 1, 9);
+    y.theft(1, 2, 3);
+    promise = 28;
+    due("a is in b alone", y.suspects(), 1);
+    due("without a word b could not be there alone", y.clears(1), 0);
+    BackStairs w = house(3, 0, 1, OPEN, 1, 2, OPEN);
+    w.folk(0);
+    w.say(0, 0, 0, 4);
+    w.say(0, 0, 0, 6);
+    w.theft(2, 4, 6);
+    due("in a at 4 and at 6, so never in c", w.suspects(), 0);
+    due("each clears him: without the first c at 4, without the second c at 6", w.clears(0), 3);
+    BackStairs z = house(2);
+    z.folk(0);
+    z.folk(0);
+    z.say(0, 0, 0, 3);
+    z.say(1, 0, 1, 7);
+    z.say(1, 1, 1, 8);
+    z.theft(0, 5, 5);
+    due("a lies, so both of the other's sayings put them there", z.suspects(), 0);
+    due("without one b is there by the other", z.clears(1), 0);
+    due("without the second a was there alone", z.clears(0), 2);
+  }
+
   private static void promise1() {
     BackStairs x = new BackStairs();
     for (int k = 0; k < 8; k++) due("count(" + k + ") of a new one", x.count(k), 0);
@@ -1361,6 +1443,7 @@ public final class PromiseTests {
     promise = 34; promise34();
     promise = 35; promise35();
     promise = 36; promise36();
+    changes();
     System.out.println("promises: " + passed + " answers as due, " + failed + " not");
     if (failed > 0) System.exit(1);
   }

@@ -512,6 +512,7 @@ public final class BackStairs {
         plansChanged();
     }
 
+    /** Trips and plans are made anew when they are asked for next. */
     private void plansChanged() {
         trips.fresh = false;
         planner.fresh = false;
@@ -937,6 +938,7 @@ public final class BackStairs {
             this.house = house;
         }
 
+        /** Makes the tables anew if the house has changed. */
         void prepare() {
             if (fresh) {
                 return;
@@ -967,7 +969,6 @@ public final class BackStairs {
         }
 
         boolean mayBegin(int room, int tick, boolean coals) {
-            prepare();
             return !coals || (guestsIn[tick] >> room & 1) == 0;
         }
 
@@ -987,6 +988,7 @@ public final class BackStairs {
 
         /** The tick of a trip's end; leaves the rooms reached by then for roomOnTrip. */
         int soonest(int from, int tick, int to, boolean coals) {
+            prepare();
             if (!mayBegin(from, tick, coals)) {
                 return NEVER;
             }
