@@ -1,68 +1,5 @@
 /** Every promise of the document by hand: what is ordinary, the edges that it names, and what can't be. */
-public final class PromiseTests {
-  private static final int BAD = -1, NOT = -2, FULL = -3, NONE = -4, NULL = -11, CAST = -12, INDEX = -13, SIZE = -14;
-  private static final int OPEN = 0, BACK = 1;
-  private static final int[] NO_TICK = {-1, 24, Integer.MIN_VALUE, Integer.MAX_VALUE};
-
-  private static int passed = 0;
-  private static int failed = 0;
-  private static int promise = 0;
-
-  private static void due(String what, int got, int want) {
-    if (got == want) {
-      passed++;
-    } else {
-      failed++;
-      System.out.println("promise " + promise + ": " + what + " answered " + got + ", due is " + want);
-    }
-  }
-
-  /** A house of so many rooms with doors told in threes: a, b, kind. */
-  private static BackStairs house(int rooms, int... doors) {
-    BackStairs x = new BackStairs();
-    for (int k = 0; k < rooms; k++) x.room();
-    for (int k = 0; k + 2 < doors.length; k += 3) x.door(doors[k], doors[k + 1], doors[k + 2]);
-    return x;
-  }
-
-  private static void tape(BackStairs x, String text) {
-    for (int p = 0; p < text.length(); p += 8) {
-      String part = text.substring(p, Math.min(text.length(), p + 8));
-      long w = 0;
-      for (char c : part.toCharArray()) w = w << 8 | c;
-      x.type(w, part.length());
-    }
-  }
-
-  private static int walk(BackStairs x, String text) {
-    tape(x, text);
-    return x.walk();
-  }
-
-  private static int sayings(BackStairs x, String text) {
-    tape(x, text);
-    return x.sayings();
-  }
-
-  private static String walked(BackStairs x, int guest) {
-    StringBuilder row = new StringBuilder();
-    for (int t = 0; t < 24; t++) row.append((char) ('a' + x.guest(guest, t)));
-    return row.toString();
-  }
-
-  private static String tripped(BackStairs x, int from, int tick, int to, boolean coals) {
-    StringBuilder row = new StringBuilder();
-    for (int t = 0; t < 24; t++) {
-      int r = x.trip(from, tick, to, coals, t);
-      row.append(r == NONE ? '.' : r < 0 ? '!' : (char) ('a' + r));
-    }
-    return row.toString();
-  }
-
-  private static void dueText(String what, String got, String want) {
-    due(what + ": " + got + ", due is " + want, got.equals(want) ? 1 : 0, 1);
-  }
-
+public final class PromiseTests extends Kit {
   /** What was asked ahead of a change is asked anew behind it. */
   private static void changes() {
     BackStairs x = house(4, 0, 1, OPEN, 1, 2, OPEN);
@@ -1118,9 +1055,9 @@ public final class PromiseTests {
     due("far", x.count(Integer.MIN_VALUE), BAD);
   }
 
-  private static void promise30and31() {
+  /** A house in which there is one of each kind, with a sheet and with three bytes on the tape. */
+  private static BackStairs ofEach() {
     BackStairs x = house(3, 0, 1, OPEN, 1, 2, BACK);
-    due("none", x.restore(), NONE);
     walk(x, "a1b1");
     x.servant(0);
     x.servant(2);
@@ -1132,42 +1069,64 @@ public final class PromiseTests {
     x.say(0, 1, 2, 7);
     x.theft(1, 6, 8);
     x.sheet(0, 1, 3);
-    tape(x, "a1");
-    due("the tape so far", x.type('b', 1), 3);
-    int[] asked = answers(x);
-    due("an image", x.image(), 1);
-    // the first time what is there changes, the second time more comes, the third time nothing
+    tape(x, "a1b");
+    return x;
+  }
+
+  /** In turn 0 what is there changes, in turn 1 more comes, in turn 2 nothing happens. */
+  private static void change(BackStairs x, int turn) {
+    if (turn == 0) {
+      x.drop(0);
+      x.unsay(0);
+      x.wall(1, 2);
+      x.door(0, 2, OPEN);
+      x.ill(1, false);
+      x.ill(0, true);
+      x.cellar(0);
+      x.theft(0, 0, 0);
+      x.errand(0, 0, 9, 0, 0);
+      x.say(1, 1, 0, 3);
+    } else if (turn == 1) {
+      for (int k = 0; k < 9; k++) x.room();
+      for (int k = 0; k < 9; k++) x.door(0, k, OPEN);
+      x.walk();
+      walk(x, "c24");
+      x.servant(1);
+      x.errand(0, 0, 9, 0, 0);
+      x.folk(1);
+      x.say(2, 2, 0, 3);
+    }
+  }
+
+  private static void promise30and31() {
+    promise = 31;
+    due("none", house(3).restore(), NONE);
+    int[] asked = answers(ofEach());
     for (int turn = 0; turn < 3; turn++) {
+      BackStairs x = ofEach();
+      promise = 30;
+      due("an image", x.image(), 1);
       promise = 31;
-      if (turn == 0) {
-        x.drop(0);
-        x.unsay(0);
-        x.wall(1, 2);
-        x.door(0, 2, OPEN);
-        x.ill(1, false);
-        x.ill(0, true);
-        x.cellar(0);
-        x.theft(0, 0, 0);
-        x.errand(0, 0, 9, 0, 0);
-        x.say(1, 1, 0, 3);
-      } else if (turn == 1) {
-        for (int k = 0; k < 9; k++) x.room();
-        for (int k = 0; k < 9; k++) x.door(0, k, OPEN);
-        x.walk();
-        walk(x, "c24");
-        x.servant(1);
-        x.errand(0, 0, 9, 0, 0);
-        x.folk(1);
-        x.say(2, 2, 0, 3);
-      }
+      change(x, turn);
       due("restore", x.restore(), 1);
       int[] again = answers(x);
       for (int k = 0; k < asked.length; k++) due("answer " + k + " in turn " + turn, again[k], asked[k]);
     }
+    BackStairs x = ofEach();
+    x.image();
+    for (int turn = 0; turn < 2; turn++) {
+      change(x, turn);
+      due("restore, and once more", x.restore(), 1);
+    }
+    int[] again = answers(x);
+    for (int k = 0; k < asked.length; k++) due("answer " + k + " behind two turns", again[k], asked[k]);
+    x = ofEach();
+    x.image();
     due("the sheet is as it is", x.empty(0), 3);
     due("restore", x.restore(), 1);
     due("the sheet is not kept", x.empty(0), NULL);
     x.sheet(1, 0, 7);
+    x.walk();
     due("the tape is not kept", x.type('a', 1), 1);
     due("restore", x.restore(), 1);
     due("the sheet stays", x.empty(1), 7);
@@ -1180,7 +1139,9 @@ public final class PromiseTests {
     due("restore", x.restore(), 1);
     due("as it was at the later one", x.count(5), 0);
     BackStairs y = house(1);
+    promise = 30;
     due("of a house without a theft", y.image(), 1);
+    promise = 31;
     y.theft(0, 0, 0);
     due("restore", y.restore(), 1);
     due("no theft any more", y.suspects(), NOT);
@@ -1205,10 +1166,6 @@ public final class PromiseTests {
     all.add(x.clears(0));
     all.add(x.clears(1));
     return all.stream().mapToInt(k -> k).toArray();
-  }
-
-  private static void fill(BackStairs x, int sheet, int lane, int from, int... items) {
-    for (int k = 0; k < items.length; k++) x.item(sheet, lane, from + k, items[k]);
   }
 
   private static void promise32() {
@@ -1444,7 +1401,6 @@ public final class PromiseTests {
     promise = 35; promise35();
     promise = 36; promise36();
     changes();
-    System.out.println("promises: " + passed + " answers as due, " + failed + " not");
-    if (failed > 0) System.exit(1);
+    finish("promises");
   }
 }
