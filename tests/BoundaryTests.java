@@ -223,6 +223,12 @@ public final class BoundaryTests extends Kit {
     dueText("past him", tripped(o, 2, 0, 1, COALS), "cab" + times(".", 21));
     dueText("past him without coals", tripped(o, 2, 0, 1, PLAIN), "cb" + times(".", 22));
     dueText("behind him", tripped(o, 0, 0, 1, COALS), "ab" + times(".", 22));
+    BackStairs p = house(4, 0, 1, OPEN, 0, 2, OPEN, 0, 3, BACK);
+    walk(p, "b1a1");
+    walk(p, "c1a1");
+    due("past the first of two", p.trip(0, 0, 1, COALS, -1), NONE);
+    due("past the second", p.trip(0, 0, 2, COALS, -1), NONE);
+    due("past none", p.trip(0, 0, 3, COALS, -1), 1);
     BackStairs l = chain(2);
     walk(l, "b23a1");
     due("from 22 to 23", l.trip(0, 22, 1, COALS, -1), NONE);
@@ -304,6 +310,15 @@ public final class BoundaryTests extends Kit {
     y.drop(0);
     y.errand(1, 2, 1, 0, 9);
     due("never to where he stays", y.told(0, 7), NONE);
+
+    BackStairs q = chain(3);
+    walk(q, "c2b1c1");
+    q.servant(0);
+    q.errand(1, 1, 1, 0, 0);
+    due("b at 1, though a guest comes and goes", q.told(0, 6), 1);
+    q.drop(0);
+    q.errand(1, 1, 1, 1, 1);
+    due("b at 3, when he has gone", q.told(0, 6), 3);
 
     says(0, "It is DONE at its last TICK; the SERVANT is there then, and free.");
     BackStairs z = chain(3);
@@ -390,6 +405,12 @@ public final class BoundaryTests extends Kit {
     int[] longer = {1, 2, 3, 0};
     for (int k = 0; k < 4; k++) due("longer order", y.does(0, 0, k), longer[k]);
 
+    BackStairs o = house(1);
+    o.servant(0);
+    for (int k = 4; k >= 0; k--) o.errand(0, 0, 1, k, k);
+    due("one order of five", o.cost(0), 0);
+    for (int k = 0; k < 5; k++) due("it is the last", o.does(0, 0, k), 4 - k);
+
     says(0, "ERRANDS by FROM, of like ones by greater RANK, then by number");
     BackStairs r = house(1);
     r.servant(0);
@@ -414,6 +435,14 @@ public final class BoundaryTests extends Kit {
     z.errand(0, 1, 1, 22, 23);
     due("he who has none as yet", z.does(1, 2, 0), 3);
     due("no second for the one", z.does(1, 1, 1), NONE);
+    BackStairs u = house(2);
+    u.servant(0);
+    u.servant(0);
+    u.servant(0);
+    u.ill(0, true);
+    u.errand(0, 1, 1, 0, 0);
+    due("nobody can: the first who is not ill", u.does(1, 1, 0), 0);
+    due("not who is ill", u.does(1, 0, 0), NONE);
 
     says(0, "the fewest SERVANTS (one at least; of those not ILL, the rest ILL, too) with whom THE BEST costs 0, of like ones the least set.");
     BackStairs e = chain(2);
@@ -484,9 +513,9 @@ public final class BoundaryTests extends Kit {
     due("b at 23", z.maybe(1, 23), 2);
 
     says(0, "FAULTS as above.");
-    String[] texts = {"", "  ", "a", "aa", "aab", "aab ", "a a b 5 ;", "  x", "a  x", "aa  x", "aab  x", "aab5  x", "aab5 5", "aab5;x",
+    String[] texts = {"5", "a5", "aa5", "aab5;aa5", "", "  ", "a", "aa", "aab", "aab ", "a a b 5 ;", "  x", "a  x", "aa  x", "aab  x", "aab5  x", "aab5 5", "aab5;x",
         "aab100", "aab 24", "aab4294967296", "aab0024", "aab5;bbb24", "A", times(" ", 80), "aab" + times("0", 75) + "24"};
-    int[] places = {0, 2, 1, 2, 3, 4, 9, 2, 3, 4, 5, 6, 5, 5, 3, 4, 3, 3, 8, 0, 80, 3};
+    int[] places = {0, 1, 2, 7, 0, 2, 1, 2, 3, 4, 9, 2, 3, 4, 5, 6, 5, 5, 3, 4, 3, 3, 8, 0, 80, 3};
     for (int k = 0; k < texts.length; k++) due("'" + texts[k] + "'", sayings(z, texts[k]), -20 - places[k]);
     due("0s and blanks", sayings(z, "  a a b  0023 ; b b b 00  "), 2);
     due("a tape of 0s", sayings(z, "bbb" + times("0", 77)), 1);
@@ -502,6 +531,7 @@ public final class BoundaryTests extends Kit {
       n.say(k, k, 1, 0);
     }
     due("all", n.liars(), 31);
+    for (int k = 0; k < 5; k++) due("so nothing binds one", n.maybe(k, 0), 3);
     n.unsay(9);
     due("all but the last", n.liars(), 15);
     // a against b and c, d against b and c: {b, c} is less than {a, d}, as a set
@@ -946,6 +976,8 @@ public final class BoundaryTests extends Kit {
     x.errand(0, 1, 2, 0, 1);
     due("the best", x.cost(0), 3);
     due("the rule", x.cost(1), 3 + 2 * 2);
+    x.cellar(1);
+    due("the rule again", x.cost(1), 3 + 2 * 2);
     x.ill(0, true);
     for (int how = 0; how < 2; how++) due("all are ill", x.cost(how), NOT);
     x.ill(0, false);
@@ -990,6 +1022,13 @@ public final class BoundaryTests extends Kit {
     due("the other comes at 1", x.missed(0), 4);
     due("the other does nothing", x.missed(1), 0);
     for (int s : new int[] {-1, 2, Integer.MIN_VALUE, Integer.MAX_VALUE}) due("servant " + s, x.missed(s), BAD);
+    BackStairs m = chain(3);
+    m.servant(0);
+    m.servant(1);
+    m.errand(0, 2, 3, 0, 0);
+    due("the best costs", m.cost(0), 3);
+    due("the other is a tick farther", m.missed(1), 3);
+    due("the nearer one is there", m.missed(0), 0);
     x.ill(0, true);
     due("he is", x.missed(0), 0);
     due("the last who is well", x.missed(1), NOT);
@@ -1136,6 +1175,7 @@ public final class BoundaryTests extends Kit {
     due("the sheet is there", i.empty(3), 4);
     due("the tape is there", i.type(32, 1), 3);
     due("once more", i.restore(), 1);
+    whatIsRestored();
     due("of a full house", f.image(), 1);
     for (int k = 0; k < 5; k++) f.drop(0);
     for (int k = 0; k < 12; k++) f.unsay(0);
@@ -1145,6 +1185,66 @@ public final class BoundaryTests extends Kit {
     most[4] = 3;
     for (int k = 0; k < 8; k++) due("count(" + k + ")", f.count(k), most[k]);
     due("full", f.errand(0, 0, 1, 0, 0), FULL);
+  }
+
+  /** Between image and restore each thing is another, and asked for. */
+  private static void whatIsRestored() {
+    BackStairs x = chain(3);
+    x.servant(0);
+    x.errand(1, 2, 1, 0, 0);
+    x.image();
+    x.wall(1, 2);
+    due("without the door", x.cost(0) * 100 + x.trip(0, 0, 2, PLAIN, -1), 2400 + NONE);
+    x.restore();
+    due("with it", x.cost(0) * 100 + x.trip(0, 0, 2, PLAIN, -1), 202);
+    walk(x, "b1");
+    due("with a guest", x.cost(0) * 100 + x.trip(0, 0, 2, COALS, -1), 2400 + NONE);
+    x.restore();
+    due("without him", x.cost(0) * 100 + x.trip(0, 0, 2, COALS, -1), 202);
+    x.cellar(2);
+    due("from another cellar", x.told(0, 7), 2);
+    x.restore();
+    due("from this one", x.told(0, 7), 0);
+    due("it was", x.cellar(1), 0);
+    x.ill(0, true);
+    due("all are ill", x.cost(0), NOT);
+    x.restore();
+    due("nobody is", x.cost(0), 2);
+    int[] other = {0, 1, 9, 1, 1};
+    int[] as = {1, 2, 1, 0, 0};
+    x.drop(0);
+    x.errand(other[0], other[1], other[2], other[3], other[4]);
+    for (int k = 0; k < 5; k++) due("another errand", x.told(0, k), other[k]);
+    due("its cost", x.cost(0), 9);
+    x.restore();
+    for (int k = 0; k < 5; k++) due("this errand", x.told(0, k), as[k]);
+    due("its cost", x.cost(0), 2);
+    sayingsAndTheftAgain();
+  }
+
+  private static void sayingsAndTheftAgain() {
+    BackStairs x = chain(3);
+    for (int k = 0; k < 3; k++) x.folk(0);
+    x.say(0, 1, 2, 5);
+    x.theft(2, 5, 5);
+    x.image();
+    int[][] said = {{2, 1, 2, 5}, {0, 2, 2, 5}, {0, 1, 1, 5}, {0, 1, 2, 6}};
+    for (int[] w : said) {
+      x.unsay(0);
+      x.say(w[0], w[1], w[2], w[3]);
+      due("another saying", x.maybe(0, 5) == 4 && x.maybe(1, 5) == 4 && x.maybe(2, 5) == 7 ? 1 : 0, 0);
+      x.restore();
+      due("of a", x.maybe(0, 5), 4);
+      due("of b", x.maybe(1, 5), 4);
+      due("not of c", x.maybe(2, 5), 7);
+    }
+    int[][] thefts = {{2, 4, 5, 7}, {2, 5, 6, 7}, {1, 5, 5, 4}};
+    for (int[] t : thefts) {
+      x.theft(t[0], t[1], t[2]);
+      due("another theft", x.suspects(), t[3]);
+      x.restore();
+      due("this theft", x.suspects(), 0);
+    }
   }
 
   // ---- promises 32 to 36
