@@ -461,6 +461,17 @@ public final class BoundaryTests extends Kit {
     e.drop(0);
     e.ill(0, true);
     due("nothing to do: the least not ill", e.enough(), 4);
+    // b and c are due by tick 1: from either end one gets to one of them, from b to both
+    BackStairs f = chain(4);
+    f.servant(0);
+    f.servant(3);
+    f.errand(0, 1, 1, 0, 1);
+    f.errand(0, 2, 1, 0, 1);
+    due("two from both ends", f.enough(), 3);
+    f.servant(1);
+    due("one ahead of two, though {2} is a greater set than {0, 1}", f.enough(), 4);
+    f.ill(2, true);
+    due("two, as he is ill", f.enough(), 3);
   }
 
   // ---- terms: the theft
